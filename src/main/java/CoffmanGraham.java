@@ -225,9 +225,7 @@ public final class CoffmanGraham {
     private int lengthFor(int wanted, int m) {
         lengths[0] = 0;
         for (int set = 1; set <= wanted; set++) {
-            if ((set & ~wanted) == 0) {
-                lengths[set] = lengthFromSubsets(set, m);
-            }
+            lengths[set] = lengthFromSubsets(set, m);
         }
         return lengths[wanted];
     }
