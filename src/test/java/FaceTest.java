@@ -34,6 +34,10 @@ public final class FaceTest {
         return item.isPrimitive() && item != float.class && item != double.class;
     }
 
+    private static boolean isConstant(Field f) {
+        return Modifier.isFinal(f.getModifiers()) && (f.getType() == int.class || f.getType() == long.class);
+    }
+
     public static void main(String[] args) {
         Class<?> type = CoffmanGraham.class;
         Set<String> shown = new TreeSet<>();
@@ -45,8 +49,7 @@ public final class FaceTest {
                 shown.add(bare(f.toString()));
             }
             must(isPlain(f.getType()), "plain type of " + f);
-            must(!Modifier.isStatic(f.getModifiers()) || Modifier.isFinal(f.getModifiers()) && !f.getType().isArray(),
-                "static only as a constant: " + f);
+            must(!Modifier.isStatic(f.getModifiers()) || isConstant(f), "static only as a constant: " + f);
         }
         for (Constructor<?> c : type.getDeclaredConstructors()) {
             if (!Modifier.isPrivate(c.getModifiers())) {

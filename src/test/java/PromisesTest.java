@@ -314,6 +314,52 @@ public final class PromisesTest {
         due("12: without(0) of none", new CoffmanGraham(0).without(0), CoffmanGraham.BAD);
     }
 
+    /** The same question before and after each kind of change: no answer may be kept from before. */
+    private static void lengthsFollowChanges() {
+        CoffmanGraham x = new CoffmanGraham(4);
+        due("11: four free", x.shortest(2), 2);
+        x.addOrder(0, 1);
+        x.addOrder(1, 2);
+        due("11: after addOrder", x.shortest(2), 3);
+        x.removeOrder(1, 2);
+        due("11: after removeOrder", x.shortest(2), 2);
+        x.addTask();
+        due("11: after addTask", x.shortest(2), 3);
+        x.addOrder(0, 2);
+        x.addOrder(2, 3);
+        x.addOrder(3, 4);
+        due("11: before removeTask", x.shortest(2), 4);
+        x.removeTask(2);
+        x.addTask();
+        due("11: as many tasks, after removeTask and addTask", x.shortest(2), 3);
+
+        CoffmanGraham y = made(3, "01");
+        due("12: before a change", y.without(2), 2);
+        y.removeOrder(0, 1);
+        due("12: after removeOrder", y.without(2), 1);
+        y.addOrder(1, 0);
+        due("12: after addOrder", y.without(2), 2);
+        y.removeTask(0);
+        y.addTask();
+        due("12: after removeTask and addTask", y.without(2), 1);
+    }
+
+    /** README.md shows these calls with these answers. */
+    private static void readmeExample() {
+        CoffmanGraham plan = new CoffmanGraham(3);
+        due("README: addOrder(0, 2)", plan.addOrder(0, 2), 1);
+        due("README: addOrder(2, 0)", plan.addOrder(2, 0), CoffmanGraham.CIRCLE);
+        due("README: height(0)", plan.height(0), 2);
+        due("README: shortest(2)", plan.shortest(2), 2);
+        due("README: without(0)", plan.without(0), 1);
+        due("README: addTask()", plan.addTask(), 3);
+        due("README: addOrder(0, 3)", plan.addOrder(0, 3), 1);
+        due("README: inTrees()", plan.inTrees(), false);
+        due("README: shortest(3)", plan.shortest(3), CoffmanGraham.NONE);
+        due("README: removeTask(1)", plan.removeTask(1), 3);
+        due("README: after(0, 2)", plan.after(0, 2), true);
+    }
+
     private static void constants() {
         due("BAD", CoffmanGraham.BAD, -1);
         due("NONE", CoffmanGraham.NONE, -2);
@@ -335,6 +381,8 @@ public final class PromisesTest {
         inTrees();
         shortest();
         without();
+        lengthsFollowChanges();
+        readmeExample();
         System.out.println(checked + " answers, " + wrong + " not as due");
         if (wrong != 0) {
             System.exit(1);

@@ -4,7 +4,7 @@ import java.util.List;
 /**
  * Compares the class, call by call, with a model that follows the words of the document's terms: lists of tasks
  * are walked one by one, and slots are given to tasks one by one. All sets of orders of up to four tasks are
- * tried, and long runs of calls that a fixed row of numbers chooses.
+ * tried, and runs of calls that a fixed row of numbers chooses.
  */
 public final class ReferenceTest {
     private static int wrong = 0;
@@ -223,8 +223,8 @@ public final class ReferenceTest {
     }
 
     private static void changeOnce(CoffmanGraham x, Model model, int addShare) {
-        int u = pick(11) - 1;
-        int v = pick(11) - 1;
+        int u = pick(model.n + 2) - 1;
+        int v = pick(model.n + 2) - 1;
         int kind = pick(100);
         if (kind < addShare) {
             due("addOrder(" + u + ", " + v + ")", x.addOrder(u, v), model.addOrder(u, v));
@@ -253,6 +253,28 @@ public final class ReferenceTest {
         compareAll(x, model);
     }
 
+    /**
+     * Asks about everything after each change, so that an answer kept from before the change is seen. The run stops
+     * before the 512 calls that an object is good for are used up.
+     */
+    private static void watchedRun(int number) {
+        run = "watched run " + number;
+        int tasks = pick(7);
+        CoffmanGraham x = new CoffmanGraham(tasks);
+        Model model = new Model(tasks);
+        int callsLeft = 512;
+        while (callsLeft > 1 + callsToCompare(9)) {
+            changeOnce(x, model, 60);
+            compareAll(x, model);
+            callsLeft -= 1 + callsToCompare(model.n);
+        }
+    }
+
+    /** How many calls compareAll makes for n tasks. */
+    private static int callsToCompare(int n) {
+        return 14 + 2 * (n + 2) + (n + 2) * (n + 2);
+    }
+
     /** At most one order from each task, so that shortest is asked on many processors. */
     private static void forest(int number) {
         run = "forest " + number;
@@ -274,6 +296,9 @@ public final class ReferenceTest {
         }
         for (int number = 0; number < 600; number++) {
             longRun(number);
+        }
+        for (int number = 0; number < 600; number++) {
+            watchedRun(number);
         }
         for (int number = 0; number < 600; number++) {
             forest(number);
